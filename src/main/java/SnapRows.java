@@ -333,7 +333,11 @@ public final class SnapRows {
         }
         Cell cell = table.cells[index];
         if (cell.isLocked() && cell.lockStart < own.start) {
-            return cleanIfFree(cell) ? AGAIN : WAIT;
+            if (!isForCleaning(cell)) {
+                return WAIT;
+            }
+            table.clean(cell);
+            return AGAIN;
         }
         int value = cell.valueAt(own.start);
         return value == DELETED ? NOTHING : value;
@@ -352,13 +356,9 @@ public final class SnapRows {
         return NOTHING;
     }
 
-    /** A LOCK that is neither DECIDED nor LATE belongs to a transaction that may still commit: it stays. */
-    private boolean cleanIfFree(Cell cell) {
-        if (!table.isDecided(cell) && !isLate(cell)) {
-            return false;
-        }
-        table.clean(cell);
-        return true;
+    /** A LOCK that is neither DECIDED nor LATE belongs to a transaction that may well commit: it stays. */
+    private boolean isForCleaning(Cell cell) {
+        return table.isDecided(cell) || isLate(cell);
     }
 
     private boolean isLate(Cell cell) {
@@ -406,7 +406,11 @@ public final class SnapRows {
                 return lose(own);
             }
             if (cell.isLocked()) {
-                return cleanIfFree(cell) ? STEP_CLEANED : lose(own);
+                if (!isForCleaning(cell)) {
+                    return lose(own);
+                }
+                table.clean(cell);
+                return STEP_CLEANED;
             }
         }
         if (table.records + cells * (1 + RECORDS_OF_A_LOCK) > MOST_RECORDS) {
@@ -592,8 +596,9 @@ public final class SnapRows {
     }
 
     /**
-     * One DATA (by its START: a value or DELETED) or one WRITE (by its ticket: a START or ROLLED) of a cell. The entries
-     * of a cell hang below one another, the greatest key on top.
+     * One DATA (by its START: a value or DELETED) or one WRITE (by its ticket: a START or ROLLED) of a cell. They hang
+     * below one another, the greatest key on top. A new one always belongs there: a LOCK, without which none comes, is put
+     * only where all WRITES, and so all DATA, are older than its START, and while it stands no other transaction's come.
      */
     private static final class Entry {
         private final int key;
@@ -606,34 +611,18 @@ public final class SnapRows {
             this.below = below;
         }
 
-        /** The chain with one entry more: its top. */
-        static Entry with(Entry top, int key, int info) {
-            Entry above = lastAbove(top, key);
-            if (above == null) {
-                return new Entry(key, info, top);
-            }
-            above.below = new Entry(key, info, above.below);
-            return top;
-        }
-
         /** The chain without an entry that is in it: its top. */
         static Entry without(Entry top, Entry gone) {
             if (top == gone) {
                 return gone.below;
             }
-            Entry above = lastAbove(top, gone.key);
-            if (above != null) {
-                above.below = gone.below;
+            for (Entry e = top; e != null; e = e.below) {
+                if (e.below == gone) {
+                    e.below = gone.below;
+                    return top;
+                }
             }
             return top;
-        }
-
-        private static Entry lastAbove(Entry top, int key) {
-            Entry above = null;
-            for (Entry e = top; e != null && e.key > key; e = e.below) {
-                above = e;
-            }
-            return above;
         }
 
         static Entry withKey(Entry top, int key) {
@@ -718,7 +707,7 @@ public final class SnapRows {
         }
 
         void addData(Cell cell, int start, int value) {
-            cell.values = Entry.with(cell.values, start, value);
+            cell.values = new Entry(start, value, cell.values);
             addLine(1);
         }
 
@@ -731,7 +720,7 @@ public final class SnapRows {
         }
 
         void addWrite(Cell cell, int ticket, int start) {
-            cell.writes = Entry.with(cell.writes, ticket, start);
+            cell.writes = new Entry(ticket, start, cell.writes);
             addLine(1);
         }
 
@@ -793,7 +782,7 @@ public final class SnapRows {
             dropLock(cell);
         }
 
-        /** The ROLLED WRITE in the PRIMARY keeps a transaction that only paused from locking it once more. */
+        /** Only the PRIMARY is marked ROLLED: it is the cell that decides. */
         void undo(Cell cell, boolean isPrimary) {
             int start = cell.lockStart;
             dropLock(cell);

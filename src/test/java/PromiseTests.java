@@ -21,6 +21,7 @@ public final class PromiseTests {
         stepDeciding();
         stepSettling();
         stepUndoing();
+        stepsOfSixteenRows();
         stepWithoutRoom();
         crash();
         tick();
@@ -198,7 +199,7 @@ public final class PromiseTests {
         x.tick(1);
         due("LATE: the PRIMARY is CLEANED", x.read(1, 2, 0), -5);
         due("PRIMARY's LOCK", x.lock(1, 0, 0), 0);
-        due("PRIMARY's WRITE is its START", x.version(1, 0, 0, 0), 4 - 1 + 1);
+        due("PRIMARY's WRITE is its START", x.version(1, 0, 0, 0), 4);
         due("PRIMARY's WRITE is ROLLED", x.version(1, 0, 0, 1), 0);
         due("PRIMARY's DATA", x.data(1, 0, 0), 1);
         due("the other LOCK stays", x.lock(2, 0, 0), 4);
@@ -560,38 +561,58 @@ public final class PromiseTests {
     /** No 512 calls reach 3000 RECORDS, so that this goes on behind them, where at least no bound may break. */
     private static void stepWithoutRoom() {
         fresh(7);
-        int client = 0;
-        for (int round = 0; round < 400 && x.told(2) <= 2988; round++) {
-            int row = 4 * (round % 15);
-            x.begin(client);
-            for (int i = 0; i < 16; i++) {
-                x.write(client, row + i / 4, i % 4, i);
-            }
-            x.commit(client);
-            for (int i = 0; i < 8 && x.state(client, 0) == 2 && x.told(2) <= 2988; i++) {
-                x.step(client);
-            }
-            for (int i = 0; i < 8 && x.state(client, 0) == 3; i++) {
-                x.step(client);
-            }
+        for (int i = 0; i < 93; i++) {
+            putSixteen(0, 4 * (i % 14));
         }
-        x.crash(client);
-        while (x.told(2) <= 2997) {
-            prepare(7, 60 + x.told(2) % 4, 0, 1);
-            x.step(7);
-            x.step(7);
+        for (int i = 0; i < 9; i++) {
+            put(0, 60, 0, i);
         }
-        due("close to the bound", x.told(2) <= 3000 ? 1 : 0, 1);
-        int before = x.told(2);
+        due("RECORDS", x.told(2), 2994);
         int lines = x.told(3);
-        prepare(6, 63, 3, 1);
+        prepare(1, 63, 0, 1, 63, 1, 2, 63, 2, 3);
         x.tick(1);
-        steps(6, -4, -4);
-        due("LAST", x.state(6, 2), x.told(6));
-        due("LOCKING still", x.state(6, 0), 2);
-        due("RECORDS as before", x.told(2), before);
+        steps(1, -4, -4);
+        due("LAST", x.state(1, 2), 1);
+        due("LOCKING still", x.state(1, 0), 2);
+        due("ROWS done", x.state(1, 4), 0);
+        due("RECORDS as before", x.told(2), 2994);
         due("LINES as before", x.told(3), lines);
-        due("no LOCK", x.lock(63, 3, 0), 0);
+        due("no LOCK", x.lock(63, 0, 0), 0);
+        prepare(2, 62, 0, 1, 62, 1, 2);
+        steps(2, 1);
+        due("not more than 3000", x.told(2), 3000);
+        prepare(3, 61, 0, 1);
+        steps(3, -4);
+        steps(2, 2);
+        due("RECORDS", x.told(2), 2998);
+        steps(3, -4);
+        due("a sweep makes room", x.sweep(x.state(1, 1)) > 0 ? 1 : 0, 1);
+        steps(3, 1, 2);
+        steps(1, 1, 2);
+    }
+
+    private static void stepsOfSixteenRows() {
+        fresh(7);
+        int[] cells = new int[48];
+        for (int i = 0; i < 16; i++) {
+            cells[3 * i] = 63 - i;
+            cells[3 * i + 1] = i % 4;
+            cells[3 * i + 2] = i;
+        }
+        prepare(1, 48, 3, 7);
+        steps(1, 1);
+        prepare(0, cells);
+        steps(0, 1, 1, 1, 1, 1, 1, 1, 1, 1, 1, 1, 1, 1, 1, 1, 4);
+        steps(0, 1, 1, 1, 1, 1, 1, 1, 1, 1, 1, 1, 1, 1, 1, 1, 0, -3);
+        due("the other's LOCK and DATA, and one ROLLED", x.told(2), 4);
+        due("ROLLED", x.version(63, 0, 0, 0), 2);
+        steps(1, 2);
+        prepare(0, cells);
+        steps(0, 1, 1, 1, 1, 1, 1, 1, 1, 1, 1, 1, 1, 1, 1, 1, 1, 2);
+        steps(0, 1, 1, 1, 1, 1, 1, 1, 1, 1, 1, 1, 1, 1, 1, 3, -3);
+        x.begin(0);
+        due("all of it", x.next(0, 0), 48);
+        due("the last ROW", x.read(0, 48, 3), 15);
     }
 
     private static void crash() {
