@@ -54,11 +54,11 @@ public final class ModelRuns {
         List<String> said = new ArrayList<>();
         for (int i = 0; i < CALLS; i++) {
             int[] call = maker.call(model);
-            int got = ask(program, call);
+            int got = Calls.ask(program, call);
             int want = model.ask(call);
-            said.add(text(call) + " -> " + want);
+            said.add(Calls.text(call) + " -> " + want);
             if (want <= 5) {
-                met.add(NAMES[call[0]] + " " + want);
+                met.add(Calls.name(call) + " " + want);
             }
             if (got != want) {
                 said.forEach(System.out::println);
@@ -67,40 +67,6 @@ public final class ModelRuns {
             }
         }
         return true;
-    }
-
-    private static final String[] NAMES = {"begin", "read", "next", "write", "commit", "step", "crash", "tick", "timeout",
-        "fallOracle", "fall", "sweep", "state", "lock", "versions", "version", "data", "told"};
-
-    private static String text(int[] call) {
-        StringBuilder b = new StringBuilder(NAMES[call[0]]);
-        for (int i = 1; i < call.length; i++) {
-            b.append(' ').append(call[i]);
-        }
-        return b.toString();
-    }
-
-    private static int ask(SnapRows x, int[] c) {
-        return switch (c[0]) {
-            case 0 -> x.begin(c[1]);
-            case 1 -> x.read(c[1], c[2], c[3]);
-            case 2 -> x.next(c[1], c[2]);
-            case 3 -> x.write(c[1], c[2], c[3], c[4]);
-            case 4 -> x.commit(c[1]);
-            case 5 -> x.step(c[1]);
-            case 6 -> x.crash(c[1]);
-            case 7 -> x.tick(c[1]);
-            case 8 -> x.timeout(c[1]);
-            case 9 -> x.fallOracle();
-            case 10 -> x.fall();
-            case 11 -> x.sweep(c[1]);
-            case 12 -> x.state(c[1], c[2]);
-            case 13 -> x.lock(c[1], c[2], c[3]);
-            case 14 -> x.versions(c[1], c[2]);
-            case 15 -> x.version(c[1], c[2], c[3], c[4]);
-            case 16 -> x.data(c[1], c[2], c[3]);
-            default -> x.told(c[1]);
-        };
     }
 
     /** Makes calls in which clients meet in few cells, with some wrong arguments among them. */

@@ -22,7 +22,6 @@ public final class PromiseTests {
         stepSettling();
         stepUndoing();
         stepsOfSixteenRows();
-        stepWithoutRoom();
         crash();
         tick();
         timeout();
@@ -101,7 +100,11 @@ public final class PromiseTests {
                 due("state of a new object", x.state(client, what), 0);
             }
         }
+        for (int what = 0; what < 9; what++) {
+            due("told(" + what + ")", x.told(what), 0);
+        }
         for (int row = 0; row < 64; row++) {
+            fresh(1);
             for (int column = 0; column < 4; column++) {
                 due("versions", x.versions(row, column), 0);
                 due("version", x.version(row, column, 0, 0), -1);
@@ -111,9 +114,6 @@ public final class PromiseTests {
                     due("lock", x.lock(row, column, what), 0);
                 }
             }
-        }
-        for (int what = 0; what < 9; what++) {
-            due("told(" + what + ")", x.told(what), 0);
         }
         SnapRows other = new SnapRows();
         x.begin(0);
@@ -558,39 +558,6 @@ public final class PromiseTests {
         steps(0, 0);
     }
 
-    /** No 512 calls reach 3000 RECORDS, so that this goes on behind them, where at least no bound may break. */
-    private static void stepWithoutRoom() {
-        fresh(7);
-        for (int i = 0; i < 93; i++) {
-            putSixteen(0, 4 * (i % 14));
-        }
-        for (int i = 0; i < 9; i++) {
-            put(0, 60, 0, i);
-        }
-        due("RECORDS", x.told(2), 2994);
-        int lines = x.told(3);
-        prepare(1, 63, 0, 1, 63, 1, 2, 63, 2, 3);
-        x.tick(1);
-        steps(1, -4, -4);
-        due("LAST", x.state(1, 2), 1);
-        due("LOCKING still", x.state(1, 0), 2);
-        due("ROWS done", x.state(1, 4), 0);
-        due("RECORDS as before", x.told(2), 2994);
-        due("LINES as before", x.told(3), lines);
-        due("no LOCK", x.lock(63, 0, 0), 0);
-        prepare(2, 62, 0, 1, 62, 1, 2);
-        steps(2, 1);
-        due("not more than 3000", x.told(2), 3000);
-        prepare(3, 61, 0, 1);
-        steps(3, -4);
-        steps(2, 2);
-        due("RECORDS", x.told(2), 2998);
-        steps(3, -4);
-        due("a sweep makes room", x.sweep(x.state(1, 1)) > 0 ? 1 : 0, 1);
-        steps(3, 1, 2);
-        steps(1, 1, 2);
-    }
-
     private static void stepsOfSixteenRows() {
         fresh(7);
         int[] cells = new int[48];
@@ -647,14 +614,6 @@ public final class PromiseTests {
         due("tick(MAX)", x.tick(MAX), -2);
         due("tick(MIN)", x.tick(MIN), -2);
         due("told(6)", x.told(6), 100001);
-        for (int i = 0; i < 21473; i++) {
-            x.tick(100000);
-        }
-        due("far on", x.told(6), 2147400001);
-        due("above 2^31 - 1", x.tick(83647), -2);
-        due("2^31 - 1", x.tick(83646), MAX);
-        due("above 2^31 - 1", x.tick(1), -2);
-        due("tick(0)", x.tick(0), MAX);
     }
 
     private static void timeout() {
