@@ -519,6 +519,11 @@ public final class PromiseEdgeTests {
         x.begin(2);
         x.read(2, 63, 3).is(-5);
         x.sweep(7).is(3);
+        x.prepare(3, 0, 0, 7);
+        x.steps(3, 1);
+        x.crash(2);
+        x.sweep(9).changesNothing(-3);
+        x.sweep(8).changesNothing(0);
     }
 
     private static void sweepNotAbove() {

@@ -24,6 +24,7 @@ public final class StepEdgeTests {
         undoingThePrimary();
         undoingBehindACleanedPrimary();
         undoingWithoutAnyLock();
+        undoingOf16Rows();
         linesComeAndGo();
         logOf63And64Lines();
         logOfMoreThan64Lines();
@@ -456,6 +457,32 @@ public final class StepEdgeTests {
         x.versions(1, 0).is(1);
         x.step(0).changesNothing(-3);
         x.begin(0).is(4);
+    }
+
+    private static void undoingOf16Rows() {
+        Trial.of("its next ROW, from the first one on: also of as many ROWS as there can be");
+        Trial x = new Trial();
+        x.prepare(0, 1, 0, 5);
+        x.steps(0, 1);
+        x.begin(1);
+        for (int i = 0; i < 16; i++) {
+            x.write(1, 63 - i, i % 4, i);
+        }
+        x.commit(1);
+        x.steps(1, 1, 1, 1, 1, 1, 1, 1, 1, 1, 1, 1, 1, 1, 1, 1, 1);
+        x.tick(11);
+        x.begin(2);
+        x.read(2, 63, 0).is(-5);
+        x.steps(1, 4);
+        for (int i = 1; i < 16; i++) {
+            x.lock(63 - i, i % 4, 0).is(2);
+            x.steps(1, 1);
+            x.lock(63 - i, i % 4, 0).is(0);
+        }
+        x.state(1, 0).is(4);
+        x.steps(1, 0, -3);
+        x.lock(1, 0, 0).is(1);
+        x.told(2).is(4);
     }
 
     private static void linesComeAndGo() {

@@ -17,6 +17,7 @@ final class Trial {
 
     private final SnapRows object = new SnapRows();
     private final List<int[]> calls = new ArrayList<>();
+    /** Too many calls to be kept: only the last one is. */
     private final boolean isEndless;
 
     Trial() {
@@ -67,26 +68,25 @@ final class Trial {
     }
 
     private void blame(int place, String fault) {
-        wrong++;
-        System.out.println("\"" + sentence + "\"");
+        complain(Calls.text(calls.get(place)) + " " + fault + ", behind these calls:");
         for (int i = 0; i < place; i++) {
             System.out.println("    " + Calls.text(calls.get(i)));
         }
-        System.out.println("    " + Calls.text(calls.get(place)) + " " + fault);
     }
 
     private Answer make(int... call) {
-        if (!isEndless && calls.size() == MOST_CALLS) {
-            System.out.println("\"" + sentence + "\": a trial of more than " + MOST_CALLS + " calls");
-            wrong++;
+        if (isEndless) {
+            calls.clear();
+        } else if (calls.size() == MOST_CALLS) {
+            complain("a trial of more than " + MOST_CALLS + " calls");
         }
-        if (!isEndless) {
-            calls.add(call);
-            return new Answer(this, calls.size() - 1, Calls.ask(object, call));
-        }
-        calls.clear();
         calls.add(call);
-        return new Answer(this, 0, Calls.ask(object, call));
+        return new Answer(this, calls.size() - 1, Calls.ask(object, call));
+    }
+
+    private static void complain(String fault) {
+        wrong++;
+        System.out.println("\"" + sentence + "\": " + fault);
     }
 
     private static List<int[]> questions() {
@@ -134,8 +134,7 @@ final class Trial {
     private static void askAll(List<int[]> made, List<Integer> answers) {
         int perObject = MOST_CALLS - made.size();
         if (perObject <= 0) {
-            System.out.println("\"" + sentence + "\": a trial too long to be looked at as a whole");
-            wrong++;
+            complain("a trial too long to be looked at as a whole");
             return;
         }
         SnapRows x = null;
