@@ -13,6 +13,7 @@ public final class SnapRows {
     private static final int LINES_OF_A_RUN = 64;
     private static final int MOST_RUNS = 4;
     private static final int LONGEST_TIME = 100000;
+    private static final int LAST_TIME = 2147483647;
     private static final int FIRST_TIMEOUT = 10;
 
     private static final int NO_SUCH = -1;
@@ -156,7 +157,7 @@ public final class SnapRows {
     }
 
     public int tick(int n) {
-        if (!isTime(n) || n > Integer.MAX_VALUE - clock) {
+        if (!isTime(n) || n > LAST_TIME - clock) {
             return OUT_OF_RANGE;
         }
         clock += n;
@@ -433,7 +434,7 @@ public final class SnapRows {
         return STEP_LOST;
     }
 
-    /** The ticket is spent also when the PRIMARY's LOCK turns out to be gone: the oracle gives it before that is looked at. */
+    /** The ticket is spent also when the PRIMARY's LOCK is gone: the oracle gives it before that is looked at. */
     private int decide(Transaction own) {
         int ticket = oracle.give();
         if (table.cells[own.cells[0]].lockStart != own.start) {
@@ -597,8 +598,9 @@ public final class SnapRows {
 
     /**
      * One DATA (by its START: a value or DELETED) or one WRITE (by its ticket: a START or ROLLED) of a cell. They hang
-     * below one another, the greatest key on top. A new one always belongs there: a LOCK, without which none comes, is put
-     * only where all WRITES, and so all DATA, are older than its START, and while it stands no other transaction's come.
+     * below one another, the greatest key on top. A new one always belongs there: a LOCK, without which none comes, is
+     * put only where all WRITES, and so all DATA, are older than its START, and while it stands no other transaction's
+     * come.
      */
     private static final class Entry {
         private final int key;
@@ -765,7 +767,7 @@ public final class SnapRows {
             return cells[cell.lockPrimary].lockStart != cell.lockStart;
         }
 
-        /** While the PRIMARY's LOCK stands it is the one that goes, for it alone decides; the cell's own comes later. */
+        /** While the PRIMARY's LOCK stands it is the one that goes, for it alone decides; the cell's own goes later. */
         void clean(Cell cell) {
             cleanings++;
             Cell primary = cells[cell.lockPrimary];

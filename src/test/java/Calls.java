@@ -1,3 +1,5 @@
+import java.util.List;
+
 /** The calls of the face as rows of numbers: which call, and its arguments. */
 final class Calls {
     static final int BEGIN = 0;
@@ -23,6 +25,17 @@ final class Calls {
         "fallOracle", "fall", "sweep", "state", "lock", "versions", "version", "data", "told"};
 
     private Calls() {
+    }
+
+    /** A call out of its name and its arguments as they stand in a program. */
+    static int[] of(String name, String arguments) {
+        String[] parts = arguments.isBlank() ? new String[0] : arguments.split(",");
+        int[] call = new int[1 + parts.length];
+        call[0] = List.of(NAMES).indexOf(name);
+        for (int i = 0; i < parts.length; i++) {
+            call[1 + i] = Integer.parseInt(parts[i].trim());
+        }
+        return call;
     }
 
     static String name(int[] call) {
@@ -56,7 +69,8 @@ final class Calls {
             case VERSIONS -> x.versions(c[1], c[2]);
             case VERSION -> x.version(c[1], c[2], c[3], c[4]);
             case DATA -> x.data(c[1], c[2], c[3]);
-            default -> x.told(c[1]);
+            case TOLD -> x.told(c[1]);
+            default -> throw new IllegalArgumentException("no such call");
         };
     }
 }

@@ -4,6 +4,7 @@ import java.lang.reflect.Method;
 import java.lang.reflect.Modifier;
 import java.nio.file.Files;
 import java.nio.file.Path;
+import java.util.List;
 import java.util.Set;
 import java.util.TreeSet;
 import java.util.regex.Matcher;
@@ -20,6 +21,8 @@ public final class FaceTests {
         face();
         classesInside();
         words(Files.readString(SOURCE));
+        library(Files.readString(SOURCE));
+        methodsAreShort(Files.readAllLines(SOURCE));
         System.out.println(wrong == 0 ? "the face is as due" : wrong + " faults");
         if (wrong != 0) {
             System.exit(1);
@@ -88,13 +91,44 @@ public final class FaceTests {
         }
     }
 
+    private static String withoutComments(String source) {
+        return source.replaceAll("(?s)/\\*.*?\\*/", "").replaceAll("//[^\n]*", "");
+    }
+
     private static void words(String source) {
-        String code = source.replaceAll("(?s)/\\*.*?\\*/", "").replaceAll("//[^\n]*", "");
+        String code = withoutComments(source);
         Matcher m = Pattern.compile("\\b(import|package|throw|throws|try|catch|finally|synchronized|assert|hashCode|toString"
             + "|HashMap|Random|System\\.(?!arraycopy)\\w+|Thread|\\w+Exact)\\b|->|::").matcher(code);
         while (m.find()) {
             hold(false, "the program has the word " + m.group());
         }
         hold(source.chars().allMatch(c -> c < 256), "a character above 255");
+    }
+
+    /** The program needs nothing of the library, so every class that it names is its own. */
+    private static void library(String source) {
+        Set<String> own = new TreeSet<>(Set.of("SnapRows"));
+        for (Class<?> c : SnapRows.class.getDeclaredClasses()) {
+            own.add(c.getSimpleName());
+        }
+        Matcher m = Pattern.compile("\\b[A-Z][A-Za-z]*[a-z][A-Za-z]*\\b").matcher(withoutComments(source));
+        while (m.find()) {
+            hold(own.contains(m.group()), "the program uses " + m.group());
+        }
+    }
+
+    /** By indents: a method ends with the brace that stands where its first line begins. */
+    private static void methodsAreShort(List<String> lines) {
+        Pattern head = Pattern.compile("( {4}| {8})(?!.*\\bclass\\b)\\w.*\\) \\{");
+        int methods = 0;
+        for (int i = 0; i < lines.size(); i++) {
+            Matcher m = head.matcher(lines.get(i));
+            if (m.matches() && !m.group().trim().matches("(if|for|while|switch|else)\\b.*")) {
+                int end = i + lines.subList(i, lines.size()).indexOf(m.group(1) + "}");
+                hold(end > i && end - i < 60, "too long, or without an end: " + lines.get(i));
+                methods++;
+            }
+        }
+        hold(methods > FACE.length, "only " + methods + " methods were found");
     }
 }
